@@ -262,11 +262,14 @@ final class Reference {
     }
 
     int solutions(int a, int b, int c) {
+        int[] like = new int[p];
+        for (int x = 0; x < p; x++) {
+            like[x] = power(x, d);
+        }
         int many = 0;
         for (int x = 0; x < p; x++) {
-            long left = (long) mod(a, p) * power(x, d);
             for (int y = 0; y < p; y++) {
-                if (mod(left + (long) mod(b, p) * power(y, d) - c, p) == 0) {
+                if (mod((long) mod(a, p) * like[x] + (long) mod(b, p) * like[y] - c, p) == 0) {
                     many++;
                 }
             }

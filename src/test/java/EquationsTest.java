@@ -8,18 +8,14 @@ public final class EquationsTest {
         for (int p : PRIMES) {
             for (int d = 1; d <= 12; d++) {
                 if ((p - 1) % d == 0) {
-                    TurningSums x = new TurningSums();
-                    Reference r = new Reference();
-                    x.prime(p);
-                    r.prime(p);
-                    x.degree(d);
-                    r.degree(d);
-                    String now = "P " + p + " d " + d + " ";
-                    solutions(now, x, r);
-                    rows(now, x, r);
-                    signs(now, x, r);
-                    wrongSets(now, x, r);
-                    nothingChanged(now, x, r);
+                    solutions(Given.of(p, d), Reference.of(p, d));
+                    rows(Given.of(p, d), Reference.of(p, d));
+                    for (int set = 0; set < 1 << d; set += d > 5 ? 37 : 1) {
+                        signs(Given.of(p, d), Reference.of(p, d), set, 1);
+                        signs(Given.of(p, d), Reference.of(p, d), set, -1);
+                    }
+                    wholeSets(Given.of(p, d), Reference.of(p, d));
+                    wrongSets(Given.of(p, d), Reference.of(p, d));
                 }
             }
         }
@@ -30,7 +26,12 @@ public final class EquationsTest {
         CHECKS.end("EquationsTest");
     }
 
-    private static void solutions(String now, TurningSums x, Reference r) {
+    private static String now(Reference r) {
+        return "P " + r.p + " d " + r.d + " ";
+    }
+
+    private static void solutions(TurningSums x, Reference r) {
+        String now = now(r);
         for (int a = -2; a <= 3; a++) {
             for (int c = -1; c <= 3; c++) {
                 solutionsOf(now, x, r, a, 2, c);
@@ -47,6 +48,7 @@ public final class EquationsTest {
         }
         CHECKS.due(now + "solutions(0, 0, 0)", x.solutions(0, 0, 0), r.p * r.p);
         CHECKS.due(now + "solutions(0, 0, 1)", x.solutions(0, 0, 1), 0);
+        nothingChanged(now, x, r);
     }
 
     private static void solutionsOf(String now, TurningSums x, Reference r, int a, int b, int c) {
@@ -65,7 +67,8 @@ public final class EquationsTest {
         CHECKS.due("all solutions of P 97, d 12", all, 97 * 97);
     }
 
-    private static void rows(String now, TurningSums x, Reference r) {
+    private static void rows(TurningSums x, Reference r) {
+        String now = now(r);
         for (int k = -2; k <= 8; k++) {
             CHECKS.due(now + "rows(" + k + ")", x.rows(k), r.rows(k));
         }
@@ -73,6 +76,7 @@ public final class EquationsTest {
         CHECKS.due(now + "rows(greatest)", x.rows(Integer.MAX_VALUE), -3);
         CHECKS.due(now + "rows(0)", x.rows(0), 1);
         CHECKS.due(now + "rows(1)", x.rows(1), 0);
+        nothingChanged(now, x, r);
     }
 
     private static void knownRows() {
@@ -84,28 +88,31 @@ public final class EquationsTest {
         CHECKS.due("P 199, d 1: rows(6)", x.rows(6), 302787585738L);
     }
 
-    private static void signs(String now, TurningSums x, Reference r) {
-        for (int set = 0; set < 1 << r.d; set += r.d > 5 ? 37 : 1) {
-            CHECKS.due(now + "even(" + set + ")", x.even(set), r.even(set));
-            for (int e : new int[] {1, -1}) {
-                String with = "(" + set + ", " + e;
-                CHECKS.due(now + "peak" + with + ")", x.peak(set, e), r.peak(set, e));
-                for (int t = -2; t <= r.p; t += r.d > 5 ? 3 : 1) {
-                    CHECKS.due(now + "over" + with + ", " + t + ")", x.over(set, e, t), r.over(set, e, t));
-                }
-                for (int t : WHOLE) {
-                    CHECKS.due(now + "over" + with + ", " + t + ")", x.over(set, e, t), r.over(set, e, t));
-                }
-                CHECKS.due(now + "over" + with + ", 0)", x.over(set, e, 0), r.p);
-            }
+    private static void signs(TurningSums x, Reference r, int set, int e) {
+        String now = now(r);
+        String with = "(" + set + ", " + e;
+        CHECKS.due(now + "even(" + set + ")", x.even(set), r.even(set));
+        CHECKS.due(now + "peak" + with + ")", x.peak(set, e), r.peak(set, e));
+        for (int t = -2; t <= r.p; t += r.d > 5 ? 3 : 1) {
+            CHECKS.due(now + "over" + with + ", " + t + ")", x.over(set, e, t), r.over(set, e, t));
         }
+        for (int t : WHOLE) {
+            CHECKS.due(now + "over" + with + ", " + t + ")", x.over(set, e, t), r.over(set, e, t));
+        }
+        CHECKS.due(now + "over" + with + ", 0)", x.over(set, e, 0), r.p);
+        nothingChanged(now, x, r);
+    }
+
+    private static void wholeSets(TurningSums x, Reference r) {
+        String now = now(r);
         int all = (1 << r.d) - 1;
         CHECKS.due(now + "even of all classes", x.even(all), r.p - 2);
         CHECKS.due(now + "even of no class", x.even(0), 0);
         CHECKS.due(now + "peak of all classes", x.peak(all, 1), r.p);
     }
 
-    private static void wrongSets(String now, TurningSums x, Reference r) {
+    private static void wrongSets(TurningSums x, Reference r) {
+        String now = now(r);
         for (int set : new int[] {1 << r.d, (2 << r.d) - 1, -1, Integer.MIN_VALUE, 1 << 30, 1 << 12}) {
             CHECKS.due(now + "over(" + set + ", 1, 1)", x.over(set, 1, 1), Reference.LEAST_INT);
             CHECKS.due(now + "peak(" + set + ", 1)", x.peak(set, 1), -2);
@@ -116,6 +123,7 @@ public final class EquationsTest {
             CHECKS.due(now + "over(1, " + e + ", 1)", x.over(1, e, 1), Reference.LEAST_INT);
             CHECKS.due(now + "peak(1, " + e + ")", x.peak(1, e), -3);
         }
+        nothingChanged(now, x, r);
     }
 
     private static void nothingChanged(String now, TurningSums x, Reference r) {
@@ -143,16 +151,17 @@ public final class EquationsTest {
     }
 
     private static void classNumbers() {
-        TurningSums x = new TurningSums();
         Reference r = new Reference();
         for (int p = 3; p < 200; p++) {
-            x.prime(p);
-            r.prime(p);
+            if (r.prime(p) < 0) {
+                continue;
+            }
+            TurningSums x = Given.of(p, 2);
             for (int way : new int[] {Integer.MIN_VALUE, -1, 0, 1, 2, Integer.MAX_VALUE}) {
                 CHECKS.due("P " + r.p + " classes(" + way + ")", x.classes(way), r.classes(way));
             }
         }
-        x.prime(3);
+        TurningSums x = Given.of(3, 2);
         CHECKS.due("P 3 classes(0)", x.classes(0), -4);
         CHECKS.due("P 3 classes(1)", x.classes(1), -4);
         CHECKS.due("P 3 classes(2)", x.classes(2), -3);

@@ -27,23 +27,9 @@ public final class NumbersTest {
         CHECKS.end("NumbersTest");
     }
 
-    private static TurningSums program(int p, int d) {
-        TurningSums x = new TurningSums();
-        x.prime(p);
-        x.degree(d);
-        return x;
-    }
-
-    private static Reference reference(int p, int d) {
-        Reference r = new Reference();
-        r.prime(p);
-        r.degree(d);
-        return r;
-    }
-
     private static void same(String when, TurningSums x, Reference r) {
         for (int hold = 0; hold < 6; hold++) {
-            for (int i = -1; i <= 12; i++) {
+            for (int i = -1; i <= r.phi(); i++) {
                 CHECKS.due(when + ": at(" + hold + ", " + i + ")", x.at(hold, i), r.at(hold, i));
             }
             CHECKS.due(when + ": size(" + hold + ")", x.size(hold), r.size(hold));
@@ -51,16 +37,20 @@ public final class NumbersTest {
     }
 
     private static void units(int d) {
-        TurningSums x = program(PRIME_OF[d], d);
-        Reference r = reference(PRIME_OF[d], d);
         for (int c : new int[] {-1000, -999, -1, 0, 1, 2, 1000}) {
             for (int k : EXPONENTS) {
+                TurningSums x = Given.of(PRIME_OF[d], d);
+                Reference r = Reference.of(PRIME_OF[d], d);
                 int hold = Math.floorMod(k, 6);
+                x.sum(hold, 1, 1);
+                r.sum(hold, 1, 1);
                 String call = "d " + d + " unit(" + hold + ", " + c + ", " + k + ")";
                 CHECKS.due(call, x.unit(hold, c, k), r.unit(hold, c, k));
                 same(call, x, r);
             }
         }
+        TurningSums x = Given.of(PRIME_OF[d], d);
+        Reference r = Reference.of(PRIME_OF[d], d);
         for (int c : new int[] {Integer.MIN_VALUE, -1001, 1001, Integer.MAX_VALUE}) {
             CHECKS.due("unit(0, " + c + ", 1)", x.unit(0, c, 1), -3);
             CHECKS.due("unit(6, " + c + ", 1)", x.unit(6, c, 1), -2);
@@ -69,17 +59,20 @@ public final class NumbersTest {
     }
 
     private static void sums(int d) {
-        TurningSums x = program(PRIME_OF[d], d);
-        Reference r = reference(PRIME_OF[d], d);
         for (int a : EXPONENTS) {
             for (int b : EXPONENTS) {
+                TurningSums x = Given.of(PRIME_OF[d], d);
+                Reference r = Reference.of(PRIME_OF[d], d);
                 int hold = Math.floorMod(a + b, 6);
+                x.unit(hold, 1000, d - 1);
                 String call = "d " + d + " sum(" + hold + ", " + a + ", " + b + ")";
                 CHECKS.due(call, x.sum(hold, a, b), PRIME_OF[d] - 2);
                 r.sum(hold, a, b);
                 same(call, x, r);
             }
         }
+        TurningSums x = Given.of(PRIME_OF[d], d);
+        Reference r = Reference.of(PRIME_OF[d], d);
         for (int hold : WRONG_HOLDS) {
             CHECKS.due("sum(" + hold + ", 1, 1)", x.sum(hold, 1, 1), -2);
         }
@@ -93,8 +86,8 @@ public final class NumbersTest {
                 if ((p - 1) % d != 0) {
                     continue;
                 }
-                TurningSums x = program(p, d);
-                Reference r = reference(p, d);
+                TurningSums x = Given.of(p, d);
+                Reference r = Reference.of(p, d);
                 for (int hold = 0; hold < 6; hold++) {
                     String call = "P " + p + " d " + d + " sum(" + hold + ", 1, " + hold + ")";
                     CHECKS.due(call, x.sum(hold, 1, hold), r.sum(hold, 1, hold));
@@ -108,24 +101,23 @@ public final class NumbersTest {
     }
 
     private static void turns(int d) {
-        TurningSums x = program(PRIME_OF[d], d);
-        Reference r = reference(PRIME_OF[d], d);
-        x.sum(0, 1, 1);
-        r.sum(0, 1, 1);
-        x.unit(1, 9, 2);
-        r.unit(1, 9, 2);
-        x.join(1, 0, 1, 0);
-        r.join(1, 0, 1, 0);
         for (int t : EXPONENTS) {
-            for (int other = 0; other < 2; other++) {
-                String call = "d " + d + " turn(" + (2 + other) + ", " + other + ", " + t + ")";
-                CHECKS.due(call, x.turn(2 + other, other, t), r.turn(2 + other, other, t));
-                same(call, x, r);
+            for (int[] call : new int[][] {{2, 0}, {3, 1}, {1, 1}}) {
+                TurningSums x = Given.of(PRIME_OF[d], d);
+                Reference r = Reference.of(PRIME_OF[d], d);
+                x.sum(0, 1, 1);
+                r.sum(0, 1, 1);
+                x.unit(1, 9, 2);
+                r.unit(1, 9, 2);
+                x.join(1, 0, 1, 0);
+                r.join(1, 0, 1, 0);
+                String told = "d " + d + " turn(" + call[0] + ", " + call[1] + ", " + t + ")";
+                CHECKS.due(told, x.turn(call[0], call[1], t), r.turn(call[0], call[1], t));
+                same(told, x, r);
             }
-            String call = "d " + d + " turn(1, 1, " + t + ")";
-            CHECKS.due(call, x.turn(1, 1, t), r.turn(1, 1, t));
-            same(call, x, r);
         }
+        TurningSums x = Given.of(PRIME_OF[d], d);
+        Reference r = Reference.of(PRIME_OF[d], d);
         for (int hold : WRONG_HOLDS) {
             CHECKS.due("d " + d + " turn(" + hold + ", 0, 0)", x.turn(hold, 0, 0), -2);
             CHECKS.due("d " + d + " turn(0, " + hold + ", 1)", x.turn(0, hold, 1), -2);
@@ -135,29 +127,31 @@ public final class NumbersTest {
 
     private static void joins() {
         for (int d = 1; d <= 12; d++) {
-            TurningSums x = program(PRIME_OF[d], d);
-            Reference r = reference(PRIME_OF[d], d);
-            for (int hold = 0; hold < 4; hold++) {
-                x.sum(hold, 1, hold);
-                r.sum(hold, 1, hold);
-            }
             for (int way = -1; way <= 3; way++) {
-                for (int one = 0; one < 4; one++) {
-                    for (int two = 0; two < 4; two++) {
-                        String call = "d " + d + " join(5, " + way + ", " + one + ", " + two + ")";
-                        CHECKS.due(call, x.join(5, way, one, two), r.join(5, way, one, two));
-                        same(call, x, r);
-                    }
+                for (int n = 0; n < 16; n++) {
+                    joined(d, way, n / 4, n % 4);
                 }
             }
         }
     }
 
+    private static void joined(int d, int way, int one, int two) {
+        TurningSums x = Given.of(PRIME_OF[d], d);
+        Reference r = Reference.of(PRIME_OF[d], d);
+        for (int hold = 0; hold < 4; hold++) {
+            x.sum(hold, 1, hold);
+            r.sum(hold, 1, hold);
+        }
+        String call = "d " + d + " join(5, " + way + ", " + one + ", " + two + ")";
+        CHECKS.due(call, x.join(5, way, one, two), r.join(5, way, one, two));
+        same(call, x, r);
+    }
+
     private static void joinsOverThemselves() {
         for (int d = 1; d <= 12; d++) {
             for (int way = 0; way <= 2; way++) {
-                TurningSums x = program(PRIME_OF[d], d);
-                Reference r = reference(PRIME_OF[d], d);
+                TurningSums x = Given.of(PRIME_OF[d], d);
+                Reference r = Reference.of(PRIME_OF[d], d);
                 for (int[] call : new int[][] {{0, 0, 1}, {1, 0, 1}, {0, 0, 0}, {1, 0, 1}}) {
                     x.sum(1, 1, 2);
                     r.sum(1, 1, 2);
@@ -175,7 +169,7 @@ public final class NumbersTest {
 
     /** Coefficients may be 100000000 and -100000000, and not one more. */
     private static void bounds() {
-        TurningSums x = program(13, 12);
+        TurningSums x = Given.of(13, 12);
         x.unit(0, 1000, 0);
         x.join(0, 2, 0, 0);
         x.unit(1, 100, 1);
@@ -202,23 +196,12 @@ public final class NumbersTest {
 
     /** A turn adds up coefficients where a power is reduced: then it may be too great. */
     private static void turnBeyondBounds() {
-        TurningSums x = program(67, 11);
-        Reference r = reference(67, 11);
-        for (int[] c : new int[][] {{1, 100}, {9, -100}}) {
-            for (int hold : new int[] {0, 1}) {
-                x.unit(hold, hold == 0 ? 1000 : c[1], hold == 0 ? 0 : c[0]);
-                r.unit(hold, hold == 0 ? 1000 : c[1], hold == 0 ? 0 : c[0]);
-            }
-            x.join(0, 2, 0, 0);
-            r.join(0, 2, 0, 0);
-            x.join(1, 2, 0, 1);
-            r.join(1, 2, 0, 1);
-            x.join(2, 0, 2, 1);
-            r.join(2, 0, 2, 1);
-        }
-        same("two coefficients at their bounds", x, r);
         int great = 0;
         for (int t = -12; t <= 12; t++) {
+            TurningSums x = Given.of(67, 11);
+            Reference r = Reference.of(67, 11);
+            boundAdded(x, r, 100, 1);
+            boundAdded(x, r, -100, 9);
             int due = r.turn(3, 2, t);
             CHECKS.due("turn(3, 2, " + t + ")", x.turn(3, 2, t), due);
             same("turn(3, 2, " + t + ")", x, r);
@@ -227,9 +210,23 @@ public final class NumbersTest {
         CHECKS.due("some turns are too great", great > 0 ? 1 : 0, 1);
     }
 
+    /** Hold 1 becomes c 1000000 z^k, and is added to hold 2. */
+    private static void boundAdded(TurningSums x, Reference r, int c, int k) {
+        x.unit(0, 1000, 0);
+        r.unit(0, 1000, 0);
+        x.unit(1, c, k);
+        r.unit(1, c, k);
+        x.join(0, 2, 0, 0);
+        r.join(0, 2, 0, 0);
+        x.join(1, 2, 0, 1);
+        r.join(1, 2, 0, 1);
+        x.join(2, 0, 2, 1);
+        r.join(2, 0, 2, 1);
+    }
+
     private static void refusals() {
-        TurningSums x = program(13, 4);
-        Reference r = reference(13, 4);
+        TurningSums x = Given.of(13, 4);
+        Reference r = Reference.of(13, 4);
         for (int hold = 0; hold < 6; hold++) {
             x.unit(hold, 5, hold);
             r.unit(hold, 5, hold);
@@ -256,7 +253,7 @@ public final class NumbersTest {
     }
 
     private static void sames() {
-        TurningSums x = program(73, 9);
+        TurningSums x = Given.of(73, 9);
         x.unit(0, 4, 8);
         x.unit(1, -4, 2);
         x.unit(2, -4, 5);
@@ -271,48 +268,46 @@ public final class NumbersTest {
 
     private static void sizes() {
         for (int d = 1; d <= 12; d++) {
-            TurningSums x = program(PRIME_OF[d], d);
-            Reference r = reference(PRIME_OF[d], d);
             int not = 0;
             for (int c = -7; c <= 7; c++) {
-                for (int k = 0; k < d; k++) {
-                    x.unit(0, c, 0);
-                    r.unit(0, c, 0);
-                    x.unit(1, 3, k);
-                    r.unit(1, 3, k);
-                    x.join(2, 0, 0, 1);
-                    r.join(2, 0, 0, 1);
-                    long due = r.size(2);
-                    CHECKS.due("d " + d + " size of " + c + " + 3 z^" + k, x.size(2), due);
-                    not += due == Reference.LEAST_LONG ? 1 : 0;
-                }
+                not += sizesOf(d, c);
             }
             boolean always = d <= 4 || d == 6;
             CHECKS.due("d " + d + ": some sizes are no whole numbers", not > 0 ? 1 : 0, always ? 0 : 1);
-            same("d " + d + " sizes change nothing", x, r);
         }
+    }
+
+    /** How many of c + 3 z^k have no whole size. */
+    private static int sizesOf(int d, int c) {
+        TurningSums x = Given.of(PRIME_OF[d], d);
+        Reference r = Reference.of(PRIME_OF[d], d);
+        int not = 0;
+        for (int k = 0; k < d; k++) {
+            x.unit(0, c, 0);
+            r.unit(0, c, 0);
+            x.unit(1, 3, k);
+            r.unit(1, 3, k);
+            x.join(2, 0, 0, 1);
+            r.join(2, 0, 0, 1);
+            long due = r.size(2);
+            CHECKS.due("d " + d + " size of " + c + " + 3 z^" + k, x.size(2), due);
+            not += due == Reference.LEAST_LONG ? 1 : 0;
+        }
+        same("d " + d + " sizes change nothing", x, r);
+        return not;
     }
 
     /** Sizes go far beyond what a hold may have. */
     private static void greatSizes() {
         for (int d = 1; d <= 12; d++) {
-            TurningSums x = program(PRIME_OF[d], d);
-            Reference r = reference(PRIME_OF[d], d);
+            TurningSums x = Given.of(PRIME_OF[d], d);
+            Reference r = Reference.of(PRIME_OF[d], d);
             for (int k = 0; k < r.phi(); k++) {
-                int sign = k % 3 == 1 ? -1 : 1;
-                x.unit(0, 1000, 0);
-                r.unit(0, 1000, 0);
-                x.unit(1, 100 * sign, k);
-                r.unit(1, 100 * sign, k);
-                x.join(0, 2, 0, 0);
-                r.join(0, 2, 0, 0);
-                x.join(1, 2, 0, 1);
-                r.join(1, 2, 0, 1);
-                x.join(2, 0, 2, 1);
-                r.join(2, 0, 2, 1);
-                same("d " + d + " great sizes", x, r);
+                boundAdded(x, r, k % 3 == 1 ? -100 : 100, k);
                 CHECKS.due("d " + d + " size of 100000000 z^" + k, x.size(1), 10000000000000000L);
+                CHECKS.due("d " + d + " size of bounds up to z^" + k, x.size(2), r.size(2));
             }
+            same("d " + d + " great sizes", x, r);
         }
     }
 }

@@ -19,6 +19,7 @@ public final class Promise08Test {
         onlyWhatComesOutIsBounded();
         greatestProducts();
         refusedHoldStaysWhole();
+        nothingOfAnEarlierDegree();
         unknownComesBeforeOutside();
         outsideComesBeforeGreat();
         CHECKS.end("Promise 8, join");
@@ -218,18 +219,34 @@ public final class Promise08Test {
         CHECKS.holds("d 11, all at their bounds, times 1", x, 2, row);
     }
 
-    /** Only the last or only the first coefficient is too great: the others don't change either. */
-    private static void refusedHoldStaysWhole() {
+    private static TurningSums nearTheBound() {
         TurningSums x = Given.of(13, 12);
         Given.number(x, 0, 5, 6, 7, BOUND);
         Given.number(x, 1, BOUND, 6, 7, 5);
         Given.number(x, 2, 1, 2, 3, 4);
         Given.number(x, 3, 1, 0, 0, 1);
-        CHECKS.still("the last coefficient too great", x, y -> y.join(2, 0, 0, 3), -5);
-        CHECKS.still("the first coefficient too great", x, y -> y.join(2, 0, 1, 3), -5);
-        CHECKS.still("the last too great, in its own hold", x, y -> y.join(0, 0, 0, 3), -5);
-        CHECKS.still("the first too great, in its own hold", x, y -> y.join(1, 0, 1, 3), -5);
-        CHECKS.still("a product too great, in its own hold", x, y -> y.join(1, 2, 1, 2), -5);
+        return x;
+    }
+
+    /** Only the last or only the first coefficient is too great: the others don't change either. */
+    private static void refusedHoldStaysWhole() {
+        CHECKS.still("the last coefficient too great", nearTheBound(), x -> x.join(2, 0, 0, 3), -5);
+        CHECKS.still("the first coefficient too great", nearTheBound(), x -> x.join(2, 0, 1, 3), -5);
+        CHECKS.still("the last too great, in its own hold", nearTheBound(), x -> x.join(0, 0, 0, 3), -5);
+        CHECKS.still("the first too great, in its own hold", nearTheBound(), x -> x.join(1, 0, 1, 3), -5);
+        CHECKS.still("a product too great, in its own hold", nearTheBound(), x -> x.join(1, 2, 1, 2), -5);
+    }
+
+    /** 0 and 0 come to 0, whatever was reckoned before d was told. */
+    private static void nothingOfAnEarlierDegree() {
+        for (int way = 0; way < 3; way++) {
+            for (int d : new int[] {1, 2, 3, 4, 6}) {
+                TurningSums x = Given.filled();
+                x.degree(d);
+                CHECKS.due("d " + d + " after 12: join(0, " + way + ", 1, 2)", x.join(0, way, 1, 2), 1);
+                CHECKS.holds("d " + d + " after 12, way " + way, x, 0, new int[x.count(3)]);
+            }
+        }
     }
 
     private static void unknownComesBeforeOutside() {

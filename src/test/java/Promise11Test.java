@@ -6,6 +6,7 @@ public final class Promise11Test {
     public static void main(String[] args) {
         aHoldIsLikeItself();
         everyCoefficientCounts();
+        anotherSignIsAnotherNumber();
         theSameByOtherPowers();
         afterAnotherDegree();
         firstAndLastHold();
@@ -36,6 +37,16 @@ public final class Promise11Test {
                     CHECKS.due("d " + d + ": the other way round, " + i, x.same(1, 0), 0);
                 }
             }
+        }
+    }
+
+    private static void anotherSignIsAnotherNumber() {
+        for (int i = 0; i < 4; i++) {
+            TurningSums x = Given.of(13, 12);
+            x.unit(0, 3, i);
+            x.unit(1, -3, i);
+            CHECKS.due("3 z^" + i + " is not -3 z^" + i, x.same(0, 1), 0);
+            CHECKS.due("-3 z^" + i + " is not 3 z^" + i, x.same(1, 0), 0);
         }
     }
 

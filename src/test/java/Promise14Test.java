@@ -13,6 +13,7 @@ public final class Promise14Test {
         classZeroOnly();
         zeroIsInNoRow();
         beyondAnInt();
+        askedAgain();
         nothingChanges();
         CHECKS.end("Promise 14, rows");
     }
@@ -88,6 +89,22 @@ public final class Promise14Test {
         CHECKS.due("P 199, d 1: rows(6)", Given.of(199, 1).rows(6), 302787585738L);
         CHECKS.due("P 199, d 1: rows(5)", Given.of(199, 1).rows(5), 1529230230L);
         CHECKS.due("P 199, d 2: rows(6)", Given.of(199, 2).rows(6), 4730942700L);
+    }
+
+    /** No row of an earlier call is left over. */
+    private static void askedAgain() {
+        TurningSums x = Given.of(13, 4);
+        long[] due = {1, 0, 0, 6, 0, 15, 90};
+        for (int round = 0; round < 2; round++) {
+            for (int k = 6; k >= 0; k--) {
+                CHECKS.due("P 13, d 4: rows(" + k + "), round " + round, x.rows(k), due[k]);
+                CHECKS.due("P 13, d 4: rows(2) after rows(" + k + ")", x.rows(2), 0);
+            }
+        }
+        x.degree(6);
+        CHECKS.due("P 13, d 6 after d 4: rows(6)", x.rows(6), 20);
+        x.prime(3);
+        CHECKS.due("P 3, d 2 after P 13, d 6: rows(6)", x.rows(6), 1);
     }
 
     private static void nothingChanges() {

@@ -21,6 +21,13 @@ final class Reference {
     int d = 2;
     BigInteger[][] holds = zeros(6, 1);
 
+    static Reference of(int p, int d) {
+        Reference r = new Reference();
+        r.prime(p);
+        r.degree(d);
+        return r;
+    }
+
     private static BigInteger[][] zeros(int many, int length) {
         BigInteger[][] rows = new BigInteger[many][length];
         for (BigInteger[] row : rows) {
@@ -59,7 +66,18 @@ final class Reference {
         return BigInteger.valueOf(g).modPow(BigInteger.valueOf(k), BigInteger.valueOf(p)).intValue();
     }
 
+    /** Roots and rows of indices that were sought once, by their primes: many objects are made of each. */
+    private static final int[] ROOTS = new int[200];
+    private static final int[][] INDICES = new int[200][];
+
     int root() {
+        if (ROOTS[p] == 0) {
+            ROOTS[p] = soughtRoot();
+        }
+        return ROOTS[p];
+    }
+
+    private int soughtRoot() {
         for (int g = 0; ; g++) {
             boolean[] seen = new boolean[p];
             int many = 0;
@@ -76,19 +94,14 @@ final class Reference {
         }
     }
 
-    private int cachedFor = 0;
-    private int[] indices;
-
     int index(int x) {
-        if (cachedFor != p) {
-            cachedFor = p;
-            indices = new int[p];
-            int g = root();
+        if (INDICES[p] == null) {
+            INDICES[p] = new int[p];
             for (int k = 0; k <= p - 2; k++) {
-                indices[power(g, k)] = k;
+                INDICES[p][power(root(), k)] = k;
             }
         }
-        return indices[x];
+        return INDICES[p][x];
     }
 
     int classOf(int x) {

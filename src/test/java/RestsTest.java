@@ -45,6 +45,10 @@ public final class RestsTest {
         Reference r = new Reference();
         r.prime(199);
         for (int p = -5; p <= 260; p++) {
+            if (p % 40 == 0) {
+                x = new TurningSums();
+                r = new Reference();
+            }
             CHECKS.due("prime(" + p + ")", x.prime(p), r.prime(p));
             counts("after prime(" + p + ")", x, r);
         }
@@ -61,12 +65,12 @@ public final class RestsTest {
 
     private static void degrees() {
         int[] phis = {0, 1, 1, 2, 2, 4, 2, 6, 4, 6, 4, 10, 4};
-        TurningSums x = new TurningSums();
-        Reference r = new Reference();
         for (int p = 3; p < 200; p += 2) {
             if (!Reference.isOddPrime(p)) {
                 continue;
             }
+            TurningSums x = new TurningSums();
+            Reference r = new Reference();
             x.prime(p);
             r.prime(p);
             for (int d = -3; d <= 14; d++) {
@@ -150,48 +154,35 @@ public final class RestsTest {
 
     private static void rests() {
         TurningSums x = new TurningSums();
-        Reference r = new Reference();
         CHECKS.due("rest(0, 0)", x.rest(0, 0), -1);
         CHECKS.due("rest(-26, 1)", x.rest(-26, 1), -1);
         CHECKS.due("rest(1, 0)", x.rest(1, 0), 0);
         CHECKS.due("rest(-1, 0)", x.rest(-1, 0), 6);
         CHECKS.due("rest(0, 2) is refused before it is 0", x.rest(0, 2), -3);
         for (int p : new int[] {3, 5, 7, 13, 61, 67, 157, 197, 199}) {
-            x.prime(p);
-            r.prime(p);
             for (int d = 1; d <= 12; d++) {
-                if ((p - 1) % d == 0) {
-                    x.degree(d);
-                    r.degree(d);
-                    restsOf(x, r);
+                for (int what = -2; (p - 1) % d == 0 && what <= 3; what++) {
+                    restsOf(Given.of(p, d), Reference.of(p, d), what);
                 }
             }
         }
     }
 
-    private static void restsOf(TurningSums x, Reference r) {
+    private static void restsOf(TurningSums x, Reference r, int what) {
         String now = "P " + r.p + " d " + r.d;
-        for (int what = -2; what <= 3; what++) {
-            for (int n = -2 * r.p; n <= 2 * r.p; n++) {
-                CHECKS.due(now + " rest(" + n + ", " + what + ")", x.rest(n, what), r.rest(n, what));
-            }
-            for (int n : EDGES) {
-                CHECKS.due(now + " rest(" + n + ", " + what + ")", x.rest(n, what), r.rest(n, what));
-            }
+        for (int n = -r.p - 2; n <= r.p + 2; n++) {
+            CHECKS.due(now + " rest(" + n + ", " + what + ")", x.rest(n, what), r.rest(n, what));
+        }
+        for (int n : EDGES) {
+            CHECKS.due(now + " rest(" + n + ", " + what + ")", x.rest(n, what), r.rest(n, what));
         }
     }
 
     private static void meetings() {
-        TurningSums x = new TurningSums();
-        Reference r = new Reference();
         for (int p : new int[] {3, 5, 7, 13, 37, 73, 199}) {
-            x.prime(p);
-            r.prime(p);
             for (int d = 1; d <= 12; d++) {
                 if ((p - 1) % d == 0) {
-                    x.degree(d);
-                    r.degree(d);
-                    meetingsOf(x, r);
+                    meetingsOf(Given.of(p, d), Reference.of(p, d));
                 }
             }
         }

@@ -13,6 +13,8 @@ public final class TurningSums {
     private static final int BOUND = 100000000;
     private static final int GREATEST_FACTOR = 1000;
     private static final int LONGEST_ROW = 6;
+    /** 4uu is at most 4uw = vv + P, and that at most uu + P: 3uu is at most 199. */
+    private static final int GREATEST_FIRST_OF_FORM = 8;
 
     /**
      * The relation of each degree, ten places a degree from degree 1 on: z^PHI plus these times
@@ -316,7 +318,7 @@ public final class TurningSums {
     }
 
     private static boolean isPrime(int n) {
-        for (int q = 2; q * q <= n; q++) {
+        for (int q = 2; q < n; q++) {
             if (n % q == 0) {
                 return false;
             }
@@ -429,8 +431,9 @@ public final class TurningSums {
     /** How many rows that are longer by one come to s, from those of rowsOfClass and toZero. */
     private long lengthened(long toZero, int s) {
         long all = 0;
-        for (int k = 0; k < p - 1; k += d) {
-            int before = s - powerOf[k];
+        int inClass = (p - 1) / d;
+        for (int i = 0; i < inClass; i++) {
+            int before = s - powerOf[i * d];
             all += before == 0 ? toZero : rowsOfClass[classOf(before + p)];
         }
         return all;
@@ -473,8 +476,7 @@ public final class TurningSums {
 
     private int classNumberByForms() {
         int forms = 0;
-        // 4uu is at most 4uw = vv + P, and that at most uu + P.
-        for (int u = 1; 3 * u * u <= p; u++) {
+        for (int u = 1; u <= GREATEST_FIRST_OF_FORM; u++) {
             for (int v = -u; v <= u; v++) {
                 if (isForm(u, v)) {
                     forms++;
